@@ -143,7 +143,7 @@ public final class KinForms {
                 return OUTSIDE;
             }
         }
-        if (!Rows.areTable(givenRows, 0, 3, 6)) {
+        if (!areTable(givenRows, 0, 3, 6)) {
             return 0;
         }
         Six.turn(forms[k].numbers, givenRows, turned);
@@ -312,9 +312,20 @@ public final class KinForms {
         Form form = forms[k];
         Family family = form.family;
         if (family.foundBy != p) {
-            family.gather(form, p, lines, reducer);
+            family.begin(form, p);
+            for (int i = 0; i < MOST_KIN && i < family.size && !family.many; i++) {
+                family.visit(i, lines, reducer);
+            }
         }
         return family.many ? MANY : family.size;
+    }
+
+    /** Whether the rows that start at places i, j and k have a determinant of 1 or -1. */
+    private static boolean areTable(int[] rows, int i, int j, int k) {
+        int determinant = rows[i] * (rows[j + 1] * rows[k + 2] - rows[j + 2] * rows[k + 1])
+            - rows[i + 1] * (rows[j] * rows[k + 2] - rows[j + 2] * rows[k])
+            + rows[i + 2] * (rows[j] * rows[k + 1] - rows[j + 1] * rows[k]);
+        return determinant == 1 || determinant == -1;
     }
 
     private static long inLeastTerms(long upper, long lower, int what) {
@@ -391,11 +402,12 @@ public final class KinForms {
 
         /** The TOUCH of two rows that start at places of rows. */
         private static int touch(int[] six, int[] rows, int one, int other) {
-            int sum = 0;
-            for (int unit = 0; unit < 3; unit++) {
-                sum += rows[other + unit] * touchUnit(six, rows, one, unit);
-            }
-            return sum;
+            int x = rows[one];
+            int y = rows[one + 1];
+            int z = rows[one + 2];
+            return rows[other] * (2 * six[0] * x + six[5] * y + six[4] * z)
+                + rows[other + 1] * (2 * six[1] * y + six[3] * z + six[5] * x)
+                + rows[other + 2] * (2 * six[2] * z + six[3] * y + six[4] * x);
         }
 
         /** Writes the numbers of the form that three rows make of this one. */
@@ -415,26 +427,6 @@ public final class KinForms {
                 }
             }
             return true;
-        }
-    }
-
-    /** Three rows that start at three places of one array. */
-    private static final class Rows {
-        private static boolean areTable(int[] rows, int i, int j, int k) {
-            int determinant = rows[i] * (rows[j + 1] * rows[k + 2] - rows[j + 2] * rows[k + 1])
-                - rows[i + 1] * (rows[j] * rows[k + 2] - rows[j + 2] * rows[k])
-                + rows[i + 2] * (rows[j] * rows[k + 1] - rows[j + 1] * rows[k]);
-            return determinant == 1 || determinant == -1;
-        }
-
-        /** Below 0, if the row at a place comes ahead of the one at a place of others; 0 if they are alike. */
-        private static int compareRow(int[] rows, int place, int[] others, int otherPlace) {
-            for (int i = 0; i < 3; i++) {
-                if (rows[place + i] != others[otherPlace + i]) {
-                    return rows[place + i] < others[otherPlace + i] ? -1 : 1;
-                }
-            }
-            return 0;
         }
     }
 
@@ -595,18 +587,10 @@ public final class KinForms {
             best[1] = six[0] + six[1] + six[2] - best[0] - best[2];
             ties = 0;
             for (int i = 0; i < BOX; i++) {
-                if (worth[i] == best[0]) {
-                    searchFrom(3 * i);
-                }
-            }
-        }
-
-        private void searchFrom(int i) {
-            for (int j = 0; j < BOX; j++) {
-                if (worth[j] == best[1]) {
-                    for (int k = 0; k < BOX; k++) {
-                        if (worth[k] == best[2] && Rows.areTable(box, i, 3 * j, 3 * k)) {
-                            consider(i, 3 * j, 3 * k);
+                for (int j = 0; worth[i] == best[0] && j < BOX; j++) {
+                    for (int k = 0; worth[j] == best[1] && k < BOX; k++) {
+                        if (worth[k] == best[2] && areTable(box, 3 * i, 3 * j, 3 * k)) {
+                            consider(3 * i, 3 * j, 3 * k);
                         }
                     }
                 }
@@ -642,15 +626,16 @@ public final class KinForms {
             return e != best[4] ? Integer.compare(e, best[4]) : Integer.compare(f, best[5]);
         }
 
+        /** Whether the nine numbers of three images come ahead of those in bestRows. */
         private boolean isAhead(int i, int j, int k) {
-            int order = Rows.compareRow(image, i, bestRows, 0);
-            if (order == 0) {
-                order = Rows.compareRow(image, j, bestRows, 3);
+            for (int place = 0; place < 9; place++) {
+                int start = place < 3 ? i : place < 6 ? j : k;
+                int number = image[start + place % 3];
+                if (number != bestRows[place]) {
+                    return number < bestRows[place];
+                }
             }
-            if (order == 0) {
-                order = Rows.compareRow(image, k, bestRows, 6);
-            }
-            return order < 0;
+            return false;
         }
     }
 
@@ -771,19 +756,17 @@ public final class KinForms {
         private boolean many;
         private int foundBy;
 
-        private void gather(Form form, int prime, Lines lines, Reducer reducer) {
+        private void begin(Form form, int prime) {
             foundBy = prime;
             many = false;
             size = 0;
             welcome(form.leastNumbers, form.ownTurns);
-            for (int i = 0; i < MOST_KIN && i < size && !many; i++) {
-                visit(i, prime, lines, reducer);
-            }
         }
 
-        private void visit(int i, int prime, Lines lines, Reducer reducer) {
-            lines.find(members[i], prime);
-            for (int number = 0; number <= prime && !many; number++) {
+        /** Finds the NEIGHBOURS of KIN i; those that are new become the next KIN. */
+        private void visit(int i, Lines lines, Reducer reducer) {
+            lines.find(members[i], foundBy);
+            for (int number = 0; number <= foundBy && !many; number++) {
                 lines.choose(number);
                 lines.cross();
                 reducer.settle(lines.crossed);

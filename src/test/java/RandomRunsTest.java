@@ -51,7 +51,7 @@ public final class RandomRunsTest {
     }
 
     private int someForm() {
-        return near(0, Math.max(0, x.count() - 1));
+        return near(0, Math.max(0, m.count() - 1));
     }
 
     private int[] someNumbers() {
