@@ -146,6 +146,8 @@ public final class NeighboursTest {
         due("17: OUTSIDE", KinForms.OUTSIDE, x.kind(0, 0, 7));
         due("17: OUTSIDE", KinForms.OUTSIDE, x.kind(0, 0, -1));
         due("17: UNKNOWN form ahead of OUTSIDE", KinForms.UNKNOWN, x.kind(1, 0, 7));
+        // The document tells this by its orders alone: OUTSIDE ahead of NOT, NOT ahead of UNKNOWN for KIN.
+        due("17: OUTSIDE ahead of UNKNOWN kin", KinForms.OUTSIDE, x.kind(0, 99, 7));
         x.prime(7);
         due("17: NOT", KinForms.NOT, x.kind(0, 0, 0));
         due("17: NOT ahead of UNKNOWN kin", KinForms.NOT, x.kind(0, 99, 0));
