@@ -1,3 +1,7 @@
+import java.util.ArrayList;
+import java.util.Arrays;
+import java.util.List;
+
 /** The bounds in promises 1 to 12: a test for each sentence, named after it. */
 public final class FormsBoundsTest {
     private static final Check CHECK = new Check();
@@ -10,6 +14,9 @@ public final class FormsBoundsTest {
     private static final int[] FAR_BY_21 = {11, 3, 10, 6, 6, 11};
     private static final int[] ROWS_WITH_21 = {-21, 10, -4, -11, 5, -2, -9, 3, -1};
 
+    /** Every FORM with a, b, c of 3 at most and d, e, f of 2 at most: many have the same LEAST FORM, from all sides. */
+    private static final List<int[]> SMALL = smallForms();
+
     public static void main(String[] args) throws IllegalAccessException {
         CHECK.sentences(FormsBoundsTest.class);
         CHECK.end();
@@ -17,6 +24,17 @@ public final class FormsBoundsTest {
 
     private static Run with(int... numbers) {
         return new Run(CHECK).due(0, "form", numbers);
+    }
+
+    private static List<int[]> smallForms() {
+        List<int[]> forms = new ArrayList<>();
+        for (int code = 0; code < 27 * 125; code++) {
+            int[] q = {code % 3 + 1, code / 3 % 3 + 1, code / 9 % 3 + 1, code / 27 % 5 - 2, code / 135 % 5 - 2, code / 675 % 5 - 2};
+            if (4 * q[0] * q[1] > q[5] * q[5] && Model.disc(Model.longs(q)) > 0) {
+                forms.add(q);
+            }
+        }
+        return forms;
     }
 
     /** FORM k is 1, 1, k + 1, 0, 0, 0. */
@@ -227,6 +245,13 @@ public final class FormsBoundsTest {
             .due(12, "taken", 0, 96).due(0, "taken", 0, 100);
     }
 
+    private static void promise07_nIs0To100_smallForms() {
+        for (int[] numbers : SMALL) {
+            int[] times = Model.takens(Model.longs(numbers));
+            with(numbers).due(times[0], "taken", 0, 0).due(times[1], "taken", 0, 1).due(times[99], "taken", 0, 99).due(times[100], "taken", 0, 100);
+        }
+    }
+
     private static void promise07_OUTSIDE() {
         for (int n : new int[] {-1, 101, Known.MIN, Known.MAX}) {
             with(Known.CUBE).due(KinForms.OUTSIDE, "taken", 0, n);
@@ -292,13 +317,20 @@ public final class FormsBoundsTest {
     }
 
     private static void promise10_ofSeveralTheOneWhoseNumbersAreFirstTheLeast() {
-        for (int[] numbers : new int[][] {Known.CUBE, Known.PACKED, {12, 12, 12, 12, 12, 12}, {12, 12, 12, 11, -11, 11}, {2, 2, 2, 1, 1, 1}, {1, 1, 12, 0, 0, 1}}) {
-            Run run = with(numbers);
-            Model model = new Model();
-            model.form(numbers[0], numbers[1], numbers[2], numbers[3], numbers[4], numbers[5]);
-            for (int place = 0; place < 9; place++) {
-                run.due(model.table(0, place), "table", 0, place);
-            }
+        int[][] manyTurns = {{12, 12, 12, 12, 12, 12}, {12, 12, 12, 11, -11, 11}, {2, 2, 2, 1, 1, 1}, {1, 1, 12, 0, 0, 1}};
+        for (int[] numbers : manyTurns) {
+            dueTable(numbers);
+        }
+        for (int[] numbers : SMALL) {
+            dueTable(numbers);
+        }
+    }
+
+    private static void dueTable(int[] numbers) {
+        Run run = with(numbers);
+        long[] table = Model.least(Model.longs(numbers)).table;
+        for (int place = 0; place < 9; place++) {
+            run.due(table[place], "table", 0, place);
         }
     }
 
@@ -362,7 +394,7 @@ public final class FormsBoundsTest {
     private static void promise11_numbersAreMinus20To20_at21() {
         // These would be TABLES that turn one FORM into the other.
         long[] turned = Model.turned(Model.longs(FAR), new long[] {-21, 10, -4}, new long[] {-11, 5, -2}, new long[] {-9, 3, -1});
-        CHECK.holds("they would turn", java.util.Arrays.equals(turned, Model.longs(FAR_BY_21)));
+        CHECK.holds("they would turn", Arrays.equals(turned, Model.longs(FAR_BY_21)));
         turnsAtEachPlace(KinForms.OUTSIDE, FAR, FAR_BY_21, ROWS_WITH_21);
     }
 

@@ -12,18 +12,21 @@ public final class Check {
     public void due(String call, long want, long got) {
         asked++;
         if (got != want) {
-            wrong++;
-            if (wrong <= 50) {
-                System.out.println(sentence + call + " answered " + got + ", due is " + want);
-            }
+            tell(call + " answered " + got + ", due is " + want);
         }
     }
 
     public void holds(String what, boolean so) {
         asked++;
         if (!so) {
-            wrong++;
-            System.out.println(sentence + "does not hold: " + what);
+            tell("does not hold: " + what);
+        }
+    }
+
+    private void tell(String fault) {
+        wrong++;
+        if (wrong <= 50) {
+            System.out.println(sentence + fault);
         }
     }
 
