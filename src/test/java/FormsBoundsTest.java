@@ -245,6 +245,18 @@ public final class FormsBoundsTest {
             .due(12, "taken", 0, 96).due(0, "taken", 0, 100);
     }
 
+    /** Rows at the very edge of where 100 is taken are counted too. */
+    private static void promise07_nIs0To100_farthestRows() {
+        int[][] forms = {{12, 10, 12, 1, 1, -6}, {8, 12, 7, -4, -5, -5}, {7, 11, 8, 4, 10, -5}, {11, 11, 9, -5, 7, 11}, {9, 7, 12, 5, -1, 1}, {8, 5, 11, -7, 3, -6}, FAR};
+        for (int[] numbers : forms) {
+            Run run = with(numbers);
+            int[] times = Model.takens(Model.longs(numbers));
+            for (int n = 0; n <= 100; n++) {
+                run.due(times[n], "taken", 0, n);
+            }
+        }
+    }
+
     private static void promise07_nIs0To100_smallForms() {
         for (int[] numbers : SMALL) {
             int[] times = Model.takens(Model.longs(numbers));
